@@ -1,4 +1,5 @@
 import java.util.function.LongSupplier;
+import java.util.function.Supplier;
 
 /** Counts and prints the answers that are not as due. */
 final class Check {
@@ -7,6 +8,9 @@ final class Check {
     static final long STATE = 2L << 40;
     static final long ELEMENT = 3L << 40;
     static final long OTHER = 4L << 40;
+
+    /** One cause may make thousands of answers wrong. */
+    private static final int TOLD = 20;
 
     private final String name;
     private int looked = 0;
@@ -17,9 +21,20 @@ final class Check {
     }
 
     void due(String call, long want, long got) {
+        due(() -> call, want, got);
+    }
+
+    /** The call's text is made only when it is told, since many long texts are not. */
+    void due(Supplier<String> call, long want, long got) {
         looked++;
         if (got != want) {
             wrong++;
+            tellOf(call.get(), want, got);
+        }
+    }
+
+    private void tellOf(String call, long want, long got) {
+        if (wrong <= TOLD) {
             System.out.println(name + ": " + call + " answered " + tell(got) + ", due is " + tell(want));
         }
     }
