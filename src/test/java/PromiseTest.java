@@ -57,6 +57,9 @@ final class PromiseTest {
         value();
         traced();
         steps();
+        theLongestProgram();
+        passesOnAnObjectUsedBefore();
+        runsOnAnObjectUsedBefore();
         CHECK.end();
     }
 
@@ -277,6 +280,12 @@ final class PromiseTest {
         duePass("fold: a way with anything", FOLD, 0,
                 taken(op(ZERO, 3, 0), op(LOAD, 2, 0), op(JUMP, 4), op(CONST, 2, 5), op(MOVE, 3, 2), end(3)),
                 op(ZERO, 3, 0), op(LOAD, 2, 0), op(JUMP, 4), op(CONST, 2, 5), op(MOVE, 3, 2), end(3));
+        duePass("fold: another way's writes don't count", FOLD, 2,
+                taken(op(ZERO, 3, 0), op(LOAD, 2, 0), end(2), op(MOVE, 3, 2), op(MOVE, 4, 2), end(3)),
+                op(ZERO, 3, 0), op(LOAD, 2, 0), end(2), op(CONST, 3, 0), op(CONST, 4, 0), end(3));
+        duePass("fold: a number behind anything", FOLD, 1,
+                taken(op(LOAD, 2, 0), op(CONST, 2, 5), op(MOVE, 3, 2), end(3)),
+                op(LOAD, 2, 0), op(CONST, 2, 5), op(CONST, 3, 5), end(3));
         duePass("fold: ZERO tells nothing of its register", FOLD, 0,
                 taken(op(ZERO, 2, 0), end(1), op(MOVE, 2, 0), end(2)),
                 op(ZERO, 2, 0), end(1), op(MOVE, 2, 0), end(2));
@@ -312,6 +321,11 @@ final class PromiseTest {
         duePass("fold: the way back to instruction 0 counts", FOLD, 0,
                 taken(op(MOVE, 4, 2), op(CONST, 2, 1), op(ZERO, 4, 0), op(JUMP, 0), end(4)),
                 op(MOVE, 4, 2), op(CONST, 2, 1), op(ZERO, 4, 0), op(JUMP, 0), end(4));
+        duePass("fold: numbers that are lost one after the other, a round each", FOLD, 0,
+                taken(op(ZERO, 7, 0), op(MOVE, 6, 5), op(MOVE, 5, 4), op(MOVE, 4, 3), op(MOVE, 3, 2), op(CONST, 2, 1),
+                        op(JUMP, 0), end(6)),
+                op(ZERO, 7, 0), op(MOVE, 6, 5), op(MOVE, 5, 4), op(MOVE, 4, 3), op(MOVE, 3, 2), op(CONST, 2, 1),
+                op(JUMP, 0), end(6));
         duePass("fold: a way that opens only when a number is lost", FOLD, 1,
                 taken(op(ZERO, 4, 2), op(CONST, 3, 9), op(MOVE, 5, 3), end(5), op(CONST, 2, 1), op(ZERO, 0, 0),
                         op(JUMP, 0)),
@@ -360,6 +374,9 @@ final class PromiseTest {
         duePass("share: a block where a JUMP goes", SHARE, 0,
                 taken(op(CONST, 2, 9), op(CONST, 3, 9), op(ZERO, 4, 0), op(JUMP, 1), end(3)),
                 op(CONST, 2, 9), op(CONST, 3, 9), op(ZERO, 4, 0), op(JUMP, 1), end(3));
+        duePass("share: values of an earlier block are forgotten", SHARE, 0,
+                taken(op(CONST, 2, 9), op(JUMP, 2), op(LOAD, 3, 0), op(CONST, 4, 9), end(4)),
+                op(CONST, 2, 9), op(JUMP, 2), op(LOAD, 3, 0), op(CONST, 4, 9), end(4));
         duePass("share: blocks behind JUMP and RETURN", SHARE, 0,
                 taken(op(CONST, 2, 9), op(JUMP, 0), op(CONST, 3, 9), end(1), op(CONST, 2, 9), end(3)),
                 op(CONST, 2, 9), op(JUMP, 0), op(CONST, 3, 9), end(1), op(CONST, 2, 9), end(3));
@@ -390,6 +407,11 @@ final class PromiseTest {
                 op(CONST, 2, 1), op(DIV, 3, 0, 2), op(LOAD, 3, 2), op(CALL, 3, 2), op(NOTHING), end(0));
         duePass("drop: what is overwritten", DROP, 1,
                 taken(op(CONST, 2, 1), op(CONST, 2, 2), end(2)), op(NOTHING), op(CONST, 2, 2), end(2));
+        duePass("drop: DIV, LOAD and CALL overwrite, too", DROP, 3,
+                taken(op(CONST, 2, 1), op(CONST, 3, 1), op(CONST, 4, 1), op(DIV, 2, 0, 1), op(LOAD, 3, 0),
+                        op(CALL, 4, 0), op(ADD, 2, 2, 3), op(ADD, 2, 2, 4), end(2)),
+                op(NOTHING), op(NOTHING), op(NOTHING), op(DIV, 2, 0, 1), op(LOAD, 3, 0),
+                op(CALL, 4, 0), op(ADD, 2, 2, 3), op(ADD, 2, 2, 4), end(2));
         duePass("drop: STORE reads both", DROP, 0,
                 taken(op(CONST, 2, 1), op(CONST, 3, 2), plain(STORE, 2, 3), end(0)),
                 op(CONST, 2, 1), op(CONST, 3, 2), plain(STORE, 2, 3), end(0));
@@ -708,6 +730,7 @@ final class PromiseTest {
         dueValue("JUMP", 1, 1, 2, op(JUMP, 2), end(1), end(0));
         dueValue("ZERO that goes", 2, 0, 2, op(ZERO, 2, 0), end(0), end(1));
         dueValue("ZERO that doesn't", 1, 1, 2, op(ZERO, 2, 0), end(0), end(1));
+        dueValue("STORE and LOAD", 44, 6, 44, plain(STORE, 0, 1), op(LOAD, 2, 0), end(2));
         dueValue("CALL", 3 * 5 + 1 + 3 * 16 + 2, 5, 0, op(CALL, 2, 0), op(CALL, 3, 2), op(ADD, 2, 2, 3), end(2));
     }
 
@@ -788,5 +811,65 @@ final class PromiseTest {
         CHECK.due("steps: a pass is no run", 4, x.steps());
         x.run(true, 0, 1);
         CHECK.due("steps: of the present program", 2, x.steps());
+    }
+
+    private static void theLongestProgram() {
+        int[][] rows = new int[24][];
+        int[][] folded = new int[24][];
+        for (int i = 0; i < 23; i++) {
+            int d = 2 + i % 3;
+            rows[i] = op(ADD, d, d, 2 + (i + 1) % 3);
+            folded[i] = op(CONST, d, 0);
+        }
+        rows[23] = end(2);
+        folded[23] = end(2);
+        PassPipeline x = taken(rows);
+        duePass("longest: share", SHARE, 0, x, rows);
+        duePass("longest: pack", PACK, 0, x, rows);
+        CHECK.due("longest: drop", 2, () -> x.pass(DROP));
+        x.restore();
+        duePass("longest: fold", FOLD, 23, x, folded);
+        x.restore();
+        CHECK.due("longest: allocate", 3, () -> x.allocate(4));
+        CHECK.due("longest: 23 that became four, and two for the RETURN", 94, x.length(true));
+        CHECK.due("longest: its end", RETURN, () -> x.look(true, 93, 0));
+        CHECK.due("longest: run", 0, () -> x.run(true, 0, 0));
+        CHECK.due("longest: steps", 94, x.steps());
+    }
+
+    private static void passesOnAnObjectUsedBefore() {
+        PassPipeline x = taken(op(CONST, 2, 5), op(MOVE, 3, 2), op(ZERO, 4, 0), end(3), end(2));
+        x.pass(FOLD);
+        x.pass(SHARE);
+        x.pass(DROP);
+        takeInto(x, op(MOVE, 4, 2), op(JUMP, 3), op(CONST, 2, 1), end(4));
+        duePass("used before: fold", FOLD, 2, x, op(CONST, 4, 0), op(JUMP, 3), op(NOTHING), end(4));
+        takeInto(x, op(NOTHING), end(2));
+        x.pass(DROP);
+        takeInto(x, op(CONST, 2, 1), op(JUMP, 1));
+        duePass("used before: drop", DROP, 1, x, op(NOTHING), op(JUMP, 1));
+        takeInto(x, op(LOAD, 4, 0), op(CONST, 3, 5), end(3));
+        duePass("used before: share", SHARE, 0, x, op(LOAD, 4, 0), op(CONST, 3, 5), end(3));
+        takeInto(x, crowded());
+        CHECK.due("used before: allocate", 3, () -> x.allocate(4));
+        takeInto(x, end(0));
+        CHECK.due("used before: allocate", 0, () -> x.allocate(4));
+        dueHomes("used before: homes", x, 0, 1, 0, 0, 0, 0, 0, 0);
+        takeInto(x, op(NOTHING), end(0));
+        duePass("used before: pack", PACK, 1, x, end(0));
+    }
+
+    private static void runsOnAnObjectUsedBefore() {
+        PassPipeline x = taken(op(ADD, 2, 2, 0), op(ADD, 3, 3, 1), op(ADD, 4, 3, 2), op(ADD, 4, 4, 0),
+                op(ADD, 4, 4, 1), op(ADD, 4, 4, 2), op(ADD, 4, 4, 3), end(4));
+        x.run(false, 1, 10);
+        CHECK.due("used before: first run", 33, x::value);
+        x.run(false, 1, 10);
+        CHECK.due("used before: registers begin with 0", 33, x::value);
+        CHECK.due("used before: slots", 3, () -> x.allocate(4));
+        x.run(true, 1, 10);
+        CHECK.due("used before: first run with slots", 33, x::value);
+        x.run(true, 1, 10);
+        CHECK.due("used before: slots begin with 0", 33, x::value);
     }
 }
