@@ -13,11 +13,18 @@ final class Check {
     private static final int TOLD = 20;
 
     private final String name;
+    private String about = "";
     private int looked = 0;
     private int wrong = 0;
 
     Check(String name) {
         this.name = name;
+    }
+
+    /** Names the sentence of the document that the answers from here on are due to. */
+    void about(String where, String sentence) {
+        about = where + " \"" + sentence + "\" ";
+        Document.lookFor(where, sentence);
     }
 
     void due(String call, long want, long got) {
@@ -35,7 +42,7 @@ final class Check {
 
     private void tellOf(String call, long want, long got) {
         if (wrong <= TOLD) {
-            System.out.println(name + ": " + call + " answered " + tell(got) + ", due is " + tell(want));
+            System.out.println(name + ": " + about + call + " answered " + tell(got) + ", due is " + tell(want));
         }
     }
 

@@ -1,30 +1,16 @@
 /** Each promise of the document by itself: ordinary inputs, the edges that it names, and wrong inputs. */
-final class PromiseTest {
-    private static final int NOTHING = 0;
-    private static final int CONST = 1;
-    private static final int MOVE = 2;
-    private static final int ADD = 3;
-    private static final int SUB = 4;
-    private static final int MUL = 5;
-    private static final int DIV = 6;
-    private static final int LOAD = 7;
-    private static final int STORE = 8;
-    private static final int JUMP = 9;
-    private static final int ZERO = 10;
-    private static final int CALL = 11;
-    private static final int RETURN = 12;
-    private static final int RELOAD = 13;
-    private static final int SPILL = 14;
-    private static final int FOLD = 0;
-    private static final int SHARE = 1;
-    private static final int DROP = 2;
-    private static final int PACK = 3;
-    private static final int MIN = Integer.MIN_VALUE;
-    private static final int MAX = Integer.MAX_VALUE;
-
-    private static final Check CHECK = new Check("PromiseTest");
+final class PromiseTest extends Tester {
+    private PromiseTest() {
+        super("PromiseTest");
+    }
 
     public static void main(String[] args) {
+        PromiseTest test = new PromiseTest();
+        test.goThrough();
+        test.check.end();
+    }
+
+    private void goThrough() {
         newObject();
         instructionKeepsWhatItsKindNames();
         instructionRefuses();
@@ -60,89 +46,34 @@ final class PromiseTest {
         theLongestProgram();
         passesOnAnObjectUsedBefore();
         runsOnAnObjectUsedBefore();
-        CHECK.end();
     }
 
-    private static int[] op(int kind, int... numbers) {
-        int[] row = {kind, 0, 0, 0};
-        System.arraycopy(numbers, 0, row, 1, numbers.length);
-        return row;
-    }
-
-    /** For kinds that name a, or a and b, but no d. */
-    private static int[] plain(int kind, int a, int b) {
-        return new int[] {kind, 0, a, b};
-    }
-
-    private static int[] end(int a) {
-        return plain(RETURN, a, 0);
-    }
-
-    private static PassPipeline taken(int[]... rows) {
+    private void newObject() {
         PassPipeline x = new PassPipeline();
-        takeInto(x, rows);
-        return x;
-    }
-
-    private static void takeInto(PassPipeline x, int[]... rows) {
-        write(x, rows);
-        x.take();
-    }
-
-    private static void write(PassPipeline x, int[]... rows) {
-        for (int[] row : rows) {
-            x.instruction(row[0], row[1], row[2], row[3]);
-        }
-    }
-
-    private static void dueProgram(String test, PassPipeline x, boolean present, int[]... rows) {
-        CHECK.due(test + " length", rows.length, x.length(present));
-        for (int i = 0; i < rows.length && i < x.length(present); i++) {
-            for (int what = 0; what < 4; what++) {
-                CHECK.due(test + " look(" + present + ", " + i + ", " + what + ")",
-                        rows[i][what], x.look(present, i, what));
-            }
-        }
-    }
-
-    private static void duePass(String test, int pass, int count, PassPipeline x, int[]... rows) {
-        CHECK.due(test + " pass(" + pass + ")", count, () -> x.pass(pass));
-        dueProgram(test, x, true, rows);
-    }
-
-    private static void dueHomes(String test, PassPipeline x, int... homes) {
-        for (int r = 0; r < 8; r++) {
-            int register = r;
-            CHECK.due(test + " home(" + r + ")", homes[r], () -> x.home(register));
-        }
-    }
-
-    private static void newObject() {
-        PassPipeline x = new PassPipeline();
-        CHECK.due("new: original's length", 0, x.length(false));
-        CHECK.due("new: present's length", 0, x.length(true));
-        CHECK.due("new: steps", 0, x.steps());
+        check.due("new: original's length", 0, x.length(false));
+        check.due("new: present's length", 0, x.length(true));
+        check.due("new: steps", 0, x.steps());
         for (int c = 0; c < 8; c++) {
-            CHECK.due("new: cell " + c, 0, x.cell(c));
+            check.due("new: cell " + c, 0, x.cell(c));
         }
-        CHECK.due("new: value", Check.ELEMENT, x::value);
-        CHECK.due("new: traced", Check.ELEMENT, () -> x.traced(0));
-        CHECK.due("new: look", Check.ELEMENT, () -> x.look(true, 0, 0));
-        CHECK.due("new: home", Check.ELEMENT, () -> x.home(0));
-        CHECK.due("new: run original", Check.STATE, () -> x.run(false, 1, 2));
-        CHECK.due("new: run present", Check.STATE, () -> x.run(true, 1, 2));
-        CHECK.due("new: pass", Check.STATE, () -> x.pass(FOLD));
-        CHECK.due("new: allocate", Check.STATE, () -> x.allocate(8));
-        CHECK.dueThrow("new: restore", Check.STATE, x::restore);
-        CHECK.due("new: take", Check.ARGUMENT, x::take);
-        CHECK.due("new: first instruction", 0, () -> x.instruction(RETURN, 0, 0, 0));
+        check.due("new: value", Check.ELEMENT, x::value);
+        check.due("new: traced", Check.ELEMENT, () -> x.traced(0));
+        check.due("new: look", Check.ELEMENT, () -> x.look(true, 0, 0));
+        check.due("new: home", Check.ELEMENT, () -> x.home(0));
+        check.due("new: run original", Check.STATE, () -> x.run(false, 1, 2));
+        check.due("new: run present", Check.STATE, () -> x.run(true, 1, 2));
+        check.due("new: pass", Check.STATE, () -> x.pass(FOLD));
+        check.due("new: allocate", Check.STATE, () -> x.allocate(8));
+        check.dueThrow("new: restore", Check.STATE, x::restore);
+        check.due("new: take", Check.ARGUMENT, x::take);
+        check.due("new: first instruction", 0, () -> x.instruction(RETURN, 0, 0, 0));
     }
 
-    private static void instructionKeepsWhatItsKindNames() {
+    private void instructionKeepsWhatItsKindNames() {
         PassPipeline x = new PassPipeline();
         for (int kind = 0; kind <= 12; kind++) {
             int number = kind;
-            CHECK.due("instruction: number", kind, () -> x.instruction(number, 7, 6, 5));
+            check.due("instruction: number", kind, () -> x.instruction(number, 7, 6, 5));
         }
         x.take();
         dueProgram("instruction: named numbers", x, false,
@@ -159,7 +90,7 @@ final class PromiseTest {
                 op(ZERO, 1, 0), op(CALL, 0, 0), op(LOAD, 0, 0), end(0));
     }
 
-    private static void instructionRefuses() {
+    private void instructionRefuses() {
         PassPipeline x = new PassPipeline();
         int[][] wrong = {
             op(-1), op(13), op(14), op(MIN), op(MAX),
@@ -170,42 +101,42 @@ final class PromiseTest {
             op(JUMP, -1), op(JUMP, 24), op(ZERO, -1, 0), op(ZERO, 24, 0), op(ZERO, 0, 8), op(ZERO, 0, -1),
             op(CALL, 8, 0), op(CALL, 0, 8), end(8), end(-1)};
         for (int[] row : wrong) {
-            CHECK.due("instruction: refuses " + java.util.Arrays.toString(row), Check.ARGUMENT,
+            check.due("instruction: refuses " + java.util.Arrays.toString(row), Check.ARGUMENT,
                     () -> x.instruction(row[0], row[1], row[2], row[3]));
         }
-        CHECK.due("instruction: JUMP 23", 0, () -> x.instruction(JUMP, 23, 0, 0));
-        CHECK.due("instruction: ZERO 23", 1, () -> x.instruction(ZERO, 23, 7, 0));
+        check.due("instruction: JUMP 23", 0, () -> x.instruction(JUMP, 23, 0, 0));
+        check.due("instruction: ZERO 23", 1, () -> x.instruction(ZERO, 23, 7, 0));
     }
 
-    private static void instructionRefusesTheTwentyFifth() {
+    private void instructionRefusesTheTwentyFifth() {
         PassPipeline x = new PassPipeline();
         for (int i = 0; i < 24; i++) {
             x.instruction(RETURN, 0, 0, 0);
         }
-        CHECK.due("instruction: 25th", Check.STATE, () -> x.instruction(RETURN, 0, 0, 0));
-        CHECK.due("instruction: 25th, wrong too", Check.ARGUMENT, () -> x.instruction(RETURN, 0, 8, 0));
-        CHECK.due("instruction: 24 are taken", 24, x::take);
-        CHECK.due("instruction: first of the next draft", 0, () -> x.instruction(NOTHING, 0, 0, 0));
+        check.due("instruction: 25th", Check.STATE, () -> x.instruction(RETURN, 0, 0, 0));
+        check.due("instruction: 25th, wrong too", Check.ARGUMENT, () -> x.instruction(RETURN, 0, 8, 0));
+        check.due("instruction: 24 are taken", 24, x::take);
+        check.due("instruction: first of the next draft", 0, () -> x.instruction(NOTHING, 0, 0, 0));
     }
 
-    private static void take() {
+    private void take() {
         PassPipeline x = taken(op(CONST, 2, 5), end(2));
         dueProgram("take: original", x, false, op(CONST, 2, 5), end(2));
         dueProgram("take: present", x, true, op(CONST, 2, 5), end(2));
         write(x, op(MOVE, 3, 1), op(ZERO, 3, 0), op(NOTHING));
         dueProgram("take: draft is apart", x, true, op(CONST, 2, 5), end(2));
         write(x, op(JUMP, 0));
-        CHECK.due("take: how many", 4, x::take);
+        check.due("take: how many", 4, x::take);
         dueProgram("take: anew", x, false, op(MOVE, 3, 1), op(ZERO, 3, 0), op(NOTHING), op(JUMP, 0));
         dueProgram("take: anew", x, true, op(MOVE, 3, 1), op(ZERO, 3, 0), op(NOTHING), op(JUMP, 0));
-        CHECK.due("take: draft is empty afterwards", Check.ARGUMENT, x::take);
+        check.due("take: draft is empty afterwards", Check.ARGUMENT, x::take);
         x.allocate(8);
         takeInto(x, end(0));
-        CHECK.due("take: a new program is not allocated", Check.ELEMENT, () -> x.home(0));
-        CHECK.due("take: a new program has passes", 0, () -> x.pass(PACK));
+        check.due("take: a new program is not allocated", Check.ELEMENT, () -> x.home(0));
+        check.due("take: a new program has passes", 0, () -> x.pass(PACK));
     }
 
-    private static void takeRefusesAndEmpties() {
+    private void takeRefusesAndEmpties() {
         int[][][] wrong = {
             {op(CONST, 2, 5)}, {op(NOTHING)}, {end(0), op(ZERO, 0, 0)}, {end(0), op(CALL, 0, 0)},
             {op(JUMP, 1)}, {op(ZERO, 2, 0), end(0)}, {op(ZERO, 23, 0), end(0)}, {end(0), op(JUMP, 2)}};
@@ -213,32 +144,32 @@ final class PromiseTest {
             PassPipeline x = taken(op(MOVE, 2, 1), end(2));
             x.allocate(8);
             write(x, rows);
-            CHECK.due("take: refuses", Check.ARGUMENT, x::take);
+            check.due("take: refuses", Check.ARGUMENT, x::take);
             dueProgram("take: refused, original stays", x, false, op(MOVE, 2, 1), end(2));
-            CHECK.due("take: refused, present stays", 2, x.length(true));
-            CHECK.due("take: refused, allocation stays", 1, () -> x.home(1));
-            CHECK.due("take: refused, draft is empty", 0, () -> x.instruction(RETURN, 0, 0, 0));
-            CHECK.due("take: after a refusal", 1, x::take);
+            check.due("take: refused, present stays", 2, x.length(true));
+            check.due("take: refused, allocation stays", 1, () -> x.home(1));
+            check.due("take: refused, draft is empty", 0, () -> x.instruction(RETURN, 0, 0, 0));
+            check.due("take: after a refusal", 1, x::take);
         }
     }
 
-    private static void passRefuses() {
+    private void passRefuses() {
         PassPipeline x = new PassPipeline();
-        CHECK.due("pass: none of both", Check.ARGUMENT, () -> x.pass(4));
-        CHECK.due("pass: no program", Check.STATE, () -> x.pass(PACK));
+        check.due("pass: none of both", Check.ARGUMENT, () -> x.pass(4));
+        check.due("pass: no program", Check.STATE, () -> x.pass(PACK));
         takeInto(x, op(NOTHING), end(0));
-        CHECK.due("pass: -1", Check.ARGUMENT, () -> x.pass(-1));
-        CHECK.due("pass: 4", Check.ARGUMENT, () -> x.pass(4));
+        check.due("pass: -1", Check.ARGUMENT, () -> x.pass(-1));
+        check.due("pass: 4", Check.ARGUMENT, () -> x.pass(4));
         x.allocate(2);
         for (int pass = 0; pass < 4; pass++) {
             int number = pass;
-            CHECK.due("pass: allocated", Check.STATE, () -> x.pass(number));
+            check.due("pass: allocated", Check.STATE, () -> x.pass(number));
         }
-        CHECK.due("pass: allocated, no such pass", Check.ARGUMENT, () -> x.pass(4));
+        check.due("pass: allocated, no such pass", Check.ARGUMENT, () -> x.pass(4));
         dueProgram("pass: refused, nothing changes", x, true, op(NOTHING), end(0));
     }
 
-    private static void foldNumbers() {
+    private void foldNumbers() {
         PassPipeline x = taken(
                 op(CONST, 2, 7), op(CONST, 3, -2), op(ADD, 4, 2, 3), op(SUB, 5, 2, 3), op(MUL, 6, 2, 3),
                 op(DIV, 7, 2, 3), op(MOVE, 0, 7), op(ADD, 1, 1, 2), op(LOAD, 2, 6), op(MOVE, 3, 2), op(CALL, 4, 4),
@@ -264,7 +195,7 @@ final class PromiseTest {
                 op(SUB, 3, 0, 0), op(MUL, 4, 2, 0), op(ADD, 5, 0, 2), end(3));
     }
 
-    private static void foldWays() {
+    private void foldWays() {
         duePass("fold: ZERO of 0 is a JUMP, what it jumps over is not reached", FOLD, 3,
                 taken(op(ZERO, 3, 2), op(CONST, 3, 1), end(3), end(2)),
                 op(JUMP, 3), op(NOTHING), op(NOTHING), end(2));
@@ -291,7 +222,7 @@ final class PromiseTest {
                 op(ZERO, 2, 0), end(1), op(MOVE, 2, 0), end(2));
     }
 
-    private static void foldDivision() {
+    private void foldDivision() {
         duePass("fold: nothing follows a division by 0", FOLD, 2,
                 taken(op(DIV, 2, 0, 3), op(MOVE, 4, 5), end(4)),
                 op(DIV, 2, 0, 3), op(NOTHING), op(NOTHING));
@@ -301,8 +232,8 @@ final class PromiseTest {
         duePass("fold: again", FOLD, 0, x, op(CONST, 2, 3), op(DIV, 2, 2, 3));
         duePass("fold: shared", SHARE, 0, x, op(CONST, 2, 3), op(DIV, 2, 2, 3));
         duePass("fold: dropped", DROP, 0, x, op(CONST, 2, 3), op(DIV, 2, 2, 3));
-        CHECK.due("fold: allocated", 0, () -> x.allocate(4));
-        CHECK.due("fold: a division that is last", 1, () -> x.run(true, 0, 0));
+        check.due("fold: allocated", 0, () -> x.allocate(4));
+        check.due("fold: a division that is last", 1, () -> x.run(true, 0, 0));
         duePass("fold: a division by anything", FOLD, 0,
                 taken(op(DIV, 2, 3, 0), op(MOVE, 4, 2), end(4)),
                 op(DIV, 2, 3, 0), op(MOVE, 4, 2), end(4));
@@ -311,7 +242,7 @@ final class PromiseTest {
                 op(CONST, 2, 8), op(LOAD, 3, 2), end(3));
     }
 
-    private static void foldLoops() {
+    private void foldLoops() {
         duePass("fold: a number that a loop keeps", FOLD, 1,
                 taken(op(CONST, 2, 3), op(ZERO, 5, 0), op(MOVE, 2, 2), op(SUB, 0, 0, 1), op(JUMP, 1), end(2)),
                 op(CONST, 2, 3), op(ZERO, 5, 0), op(CONST, 2, 3), op(SUB, 0, 0, 1), op(JUMP, 1), end(2));
@@ -333,7 +264,7 @@ final class PromiseTest {
                 op(JUMP, 0));
     }
 
-    private static void shareInOneBlock() {
+    private void shareInOneBlock() {
         duePass("share: sums and products in either order, differences not", SHARE, 2,
                 taken(op(ADD, 2, 0, 1), op(ADD, 3, 1, 0), op(MUL, 4, 0, 1), op(MUL, 5, 1, 0), op(SUB, 6, 0, 1),
                         op(SUB, 7, 1, 0), end(7)),
@@ -364,7 +295,7 @@ final class PromiseTest {
                 op(ADD, 2, 0, 0), op(SUB, 3, 0, 0), op(MUL, 4, 0, 0), op(CONST, 5, 0), end(1));
     }
 
-    private static void shareBlocks() {
+    private void shareBlocks() {
         duePass("share: a block behind ZERO", SHARE, 0,
                 taken(op(CONST, 2, 9), op(ZERO, 3, 0), op(CONST, 3, 9), end(3)),
                 op(CONST, 2, 9), op(ZERO, 3, 0), op(CONST, 3, 9), end(3));
@@ -385,7 +316,7 @@ final class PromiseTest {
                 op(CONST, 2, 9), op(DIV, 4, 0, 1), plain(STORE, 0, 1), op(CALL, 5, 0), op(MOVE, 3, 2), end(1));
     }
 
-    private static void shareKeepsValuesThatNoRegisterHolds() {
+    private void shareKeepsValuesThatNoRegisterHolds() {
         duePass("share: a sum made anew is the same value", SHARE, 2,
                 taken(op(ADD, 2, 0, 1), op(MUL, 3, 2, 2), op(LOAD, 2, 0), op(ADD, 4, 1, 0), op(MUL, 5, 4, 4),
                         end(5)),
@@ -398,7 +329,7 @@ final class PromiseTest {
                 op(ADD, 2, 0, 1), op(ADD, 2, 2, 1), op(ADD, 3, 0, 1), op(MOVE, 3, 2), end(1));
     }
 
-    private static void drop() {
+    private void drop() {
         duePass("drop: what nobody reads, and then what only that read", DROP, 4,
                 taken(op(CONST, 2, 1), op(MOVE, 3, 2), op(ADD, 4, 3, 3), op(MUL, 5, 4, 4), op(CONST, 6, 1), end(6)),
                 op(NOTHING), op(NOTHING), op(NOTHING), op(NOTHING), op(CONST, 6, 1), end(6));
@@ -423,7 +354,7 @@ final class PromiseTest {
                 op(NOTHING), op(NOTHING), op(ZERO, 5, 0), end(0), end(2), op(JUMP, 3));
     }
 
-    private static void dropLoops() {
+    private void dropLoops() {
         duePass("drop: read in the next round of a loop", DROP, 0,
                 taken(op(ADD, 2, 2, 1), op(ZERO, 3, 0), op(JUMP, 0), end(2)),
                 op(ADD, 2, 2, 1), op(ZERO, 3, 0), op(JUMP, 0), end(2));
@@ -433,7 +364,7 @@ final class PromiseTest {
                 taken(op(ADD, 2, 2, 1), op(JUMP, 0)), op(ADD, 2, 2, 1), op(JUMP, 0));
     }
 
-    private static void pack() {
+    private void pack() {
         duePass("pack: NOTHINGs, and where jumps go then", PACK, 4,
                 taken(op(NOTHING), op(ZERO, 4, 0), op(NOTHING), op(CONST, 2, 1), op(NOTHING), op(NOTHING), end(2)),
                 op(ZERO, 2, 0), op(CONST, 2, 1), end(2));
@@ -450,7 +381,7 @@ final class PromiseTest {
         duePass("pack: and then no more", PACK, 0, x, op(CONST, 2, 1), end(2));
     }
 
-    private static void packChains() {
+    private void packChains() {
         duePass("pack: JUMPs and ZEROs go on behind JUMPs", PACK, 0,
                 taken(op(ZERO, 3, 0), op(JUMP, 5), end(0), op(JUMP, 1), op(MOVE, 2, 0), end(1)),
                 op(ZERO, 5, 0), op(JUMP, 5), end(0), op(JUMP, 5), op(MOVE, 2, 0), end(1));
@@ -479,39 +410,39 @@ final class PromiseTest {
         duePass("pack: the longest chain", PACK, 1, taken(chain), left);
     }
 
-    private static void allocateWithoutSlots() {
+    private void allocateWithoutSlots() {
         PassPipeline x = taken(op(CONST, 5, 4), op(ADD, 6, 5, 0), op(NOTHING), op(ZERO, 5, 6), op(MOVE, 7, 6),
                 end(7));
-        CHECK.due("allocate: none in slots", 0, () -> x.allocate(3));
+        check.due("allocate: none in slots", 0, () -> x.allocate(3));
         dueHomes("allocate: registers that don't interfere share", x, 0, 1, 0, 0, 0, 1, 0, 2);
         dueProgram("allocate: without slots", x, true, op(CONST, 1, 4), op(ADD, 0, 1, 0), op(NOTHING), op(ZERO, 5, 0),
                 op(MOVE, 2, 0), end(2));
         dueProgram("allocate: the original stays", x, false, op(CONST, 5, 4), op(ADD, 6, 5, 0), op(NOTHING),
                 op(ZERO, 5, 6), op(MOVE, 7, 6), end(7));
         PassPipeline y = taken(end(1));
-        CHECK.due("allocate: to 2", 0, () -> y.allocate(2));
+        check.due("allocate: to 2", 0, () -> y.allocate(2));
         dueHomes("allocate: nothing interferes but the arguments", y, 0, 1, 0, 0, 0, 0, 0, 0);
     }
 
-    private static void allocateInterference() {
+    private void allocateInterference() {
         PassPipeline x = taken(op(ADD, 2, 3, 4), end(2));
-        CHECK.due("allocate: live at the beginning", 0, () -> x.allocate(4));
+        check.due("allocate: live at the beginning", 0, () -> x.allocate(4));
         dueHomes("allocate: live at the beginning", x, 0, 1, 0, 2, 3, 0, 0, 0);
         PassPipeline y = taken(op(MOVE, 2, 0), op(ADD, 3, 2, 0), op(SUB, 3, 3, 1), end(3));
-        CHECK.due("allocate: a MOVE's registers", 0, () -> y.allocate(4));
+        check.due("allocate: a MOVE's registers", 0, () -> y.allocate(4));
         dueHomes("allocate: a MOVE's registers don't interfere by it", y, 0, 1, 0, 0, 0, 0, 0, 0);
         PassPipeline z = taken(op(ADD, 2, 0, 4), op(ADD, 3, 2, 0), op(SUB, 3, 3, 1), end(3));
-        CHECK.due("allocate: others do", 0, () -> z.allocate(4));
+        check.due("allocate: others do", 0, () -> z.allocate(4));
         dueHomes("allocate: others do", z, 0, 1, 2, 0, 2, 0, 0, 0);
         PassPipeline u = taken(op(CONST, 2, 5), op(LOAD, 3, 0), op(SUB, 4, 0, 1), end(4));
-        CHECK.due("allocate: writes that nobody reads", 0, () -> u.allocate(4));
+        check.due("allocate: writes that nobody reads", 0, () -> u.allocate(4));
         dueHomes("allocate: a write that nobody reads interferes, too", u, 0, 1, 2, 2, 0, 0, 0, 0);
         PassPipeline v = taken(op(JUMP, 2), op(MOVE, 2, 5), op(ADD, 3, 0, 1), op(ADD, 3, 3, 0), end(3));
-        CHECK.due("allocate: what is not reached counts", 0, () -> v.allocate(3));
+        check.due("allocate: what is not reached counts", 0, () -> v.allocate(3));
         dueHomes("allocate: what is not reached counts", v, 0, 1, 2, 1, 0, 0, 0, 0);
         PassPipeline w = taken(op(CONST, 7, 1), op(CONST, 6, 2), op(CONST, 5, 3), op(ADD, 5, 5, 6), op(ADD, 5, 5, 7),
                 op(ADD, 5, 5, 0), end(5));
-        CHECK.due("allocate: in the order of registers", 0, () -> w.allocate(4));
+        check.due("allocate: in the order of registers", 0, () -> w.allocate(4));
         dueHomes("allocate: in the order of registers", w, 0, 1, 0, 0, 0, 1, 2, 3);
     }
 
@@ -523,13 +454,13 @@ final class PromiseTest {
             op(ADD, 4, 4, 2), op(ADD, 3, 3, 4), op(JUMP, 14), end(3)};
     }
 
-    private static void allocateWithSlots() {
+    private void allocateWithSlots() {
         PassPipeline x = taken(crowded());
-        CHECK.due("allocate: 8 need no slots", 0, () -> x.allocate(8));
+        check.due("allocate: 8 need no slots", 0, () -> x.allocate(8));
         x.restore();
-        CHECK.due("allocate: 5 need no slots", 0, () -> x.allocate(5));
+        check.due("allocate: 5 need no slots", 0, () -> x.allocate(5));
         x.restore();
-        CHECK.due("allocate: 4 need slots for three", 3, () -> x.allocate(4));
+        check.due("allocate: 4 need slots for three", 3, () -> x.allocate(4));
         dueHomes("allocate: slots in order", x, 0, 1, 8, 9, 10, 0, 0, 0);
         dueProgram("allocate: with slots", x, true,
                 op(CONST, 2, 10), plain(SPILL, 2, 0),
@@ -549,132 +480,132 @@ final class PromiseTest {
                 op(RELOAD, 2, 1), end(2));
         PassPipeline y = taken(op(CONST, 2, 1), op(CONST, 3, 2), op(CONST, 4, 3), op(CONST, 5, 4), op(ADD, 2, 2, 3),
                 op(ADD, 2, 2, 4), op(ADD, 2, 2, 5), op(ADD, 2, 2, 0), op(ADD, 2, 2, 1), end(2));
-        CHECK.due("allocate: 5 of which 2 help", 3, () -> y.allocate(5));
+        check.due("allocate: 5 of which 2 help", 3, () -> y.allocate(5));
         dueHomes("allocate: some in slots", y, 0, 1, 2, 8, 9, 10, 0, 0);
-        CHECK.due("allocate: the second helper is k - 1", 4, y.look(true, 7, 1));
-        CHECK.due("allocate: the first helper is k - 2", 3, y.look(true, 1, 1));
-        CHECK.due("allocate: runs as before", 0, () -> y.run(true, 100, 1000));
-        CHECK.due("allocate: runs as before", 1110, y::value);
+        check.due("allocate: the second helper is k - 1", 4, y.look(true, 7, 1));
+        check.due("allocate: the first helper is k - 2", 3, y.look(true, 1, 1));
+        check.due("allocate: runs as before", 0, () -> y.run(true, 100, 1000));
+        check.due("allocate: runs as before", 1110, y::value);
     }
 
-    private static void allocateRefuses() {
+    private void allocateRefuses() {
         PassPipeline x = new PassPipeline();
-        CHECK.due("allocate: k 1 and no program", Check.ARGUMENT, () -> x.allocate(1));
-        CHECK.due("allocate: no program", Check.STATE, () -> x.allocate(2));
+        check.due("allocate: k 1 and no program", Check.ARGUMENT, () -> x.allocate(1));
+        check.due("allocate: no program", Check.STATE, () -> x.allocate(2));
         takeInto(x, crowded());
         for (int wrong : new int[] {1, 9, 0, -1, MIN, MAX}) {
-            CHECK.due("allocate: k " + wrong, Check.ARGUMENT, () -> x.allocate(wrong));
+            check.due("allocate: k " + wrong, Check.ARGUMENT, () -> x.allocate(wrong));
         }
-        CHECK.due("allocate: k 2 is too few", Check.STATE, () -> x.allocate(2));
-        CHECK.due("allocate: k 3 is too few", Check.STATE, () -> x.allocate(3));
+        check.due("allocate: k 2 is too few", Check.STATE, () -> x.allocate(2));
+        check.due("allocate: k 3 is too few", Check.STATE, () -> x.allocate(3));
         dueProgram("allocate: refused, nothing is done", x, true, crowded());
-        CHECK.due("allocate: refused, not allocated", Check.ELEMENT, () -> x.home(2));
-        CHECK.due("allocate: refused, passes go on", 0, () -> x.pass(FOLD) * 0);
+        check.due("allocate: refused, not allocated", Check.ELEMENT, () -> x.home(2));
+        check.due("allocate: refused, passes go on", 0, () -> x.pass(FOLD) * 0);
         x.restore();
-        CHECK.due("allocate: k 4", 3, () -> x.allocate(4));
-        CHECK.due("allocate: twice", Check.STATE, () -> x.allocate(8));
-        CHECK.due("allocate: twice, no such k", Check.ARGUMENT, () -> x.allocate(9));
-        CHECK.due("allocate: twice, homes stay", 10, () -> x.home(4));
+        check.due("allocate: k 4", 3, () -> x.allocate(4));
+        check.due("allocate: twice", Check.STATE, () -> x.allocate(8));
+        check.due("allocate: twice, no such k", Check.ARGUMENT, () -> x.allocate(9));
+        check.due("allocate: twice, homes stay", 10, () -> x.home(4));
     }
 
-    private static void home() {
+    private void home() {
         PassPipeline x = new PassPipeline();
-        CHECK.due("home: no such register, no program", Check.ARGUMENT, () -> x.home(8));
-        CHECK.due("home: no program", Check.ELEMENT, () -> x.home(7));
+        check.due("home: no such register, no program", Check.ARGUMENT, () -> x.home(8));
+        check.due("home: no program", Check.ELEMENT, () -> x.home(7));
         takeInto(x, crowded());
-        CHECK.due("home: not allocated", Check.ELEMENT, () -> x.home(0));
+        check.due("home: not allocated", Check.ELEMENT, () -> x.home(0));
         x.allocate(4);
-        CHECK.due("home: -1", Check.ARGUMENT, () -> x.home(-1));
-        CHECK.due("home: 8", Check.ARGUMENT, () -> x.home(8));
-        CHECK.due("home: a machine register", 1, () -> x.home(1));
-        CHECK.due("home: a slot", 9, () -> x.home(3));
+        check.due("home: -1", Check.ARGUMENT, () -> x.home(-1));
+        check.due("home: 8", Check.ARGUMENT, () -> x.home(8));
+        check.due("home: a machine register", 1, () -> x.home(1));
+        check.due("home: a slot", 9, () -> x.home(3));
         x.restore();
-        CHECK.due("home: restored", Check.ELEMENT, () -> x.home(3));
+        check.due("home: restored", Check.ELEMENT, () -> x.home(3));
         x.allocate(8);
-        CHECK.due("home: of the latest allocation", 3, () -> x.home(3));
+        check.due("home: of the latest allocation", 3, () -> x.home(3));
     }
 
-    private static void restore() {
+    private void restore() {
         PassPipeline x = new PassPipeline();
-        CHECK.dueThrow("restore: no program", Check.STATE, x::restore);
+        check.dueThrow("restore: no program", Check.STATE, x::restore);
         write(x, op(CONST, 2, 1));
-        CHECK.dueThrow("restore: a draft is no program", Check.STATE, x::restore);
+        check.dueThrow("restore: a draft is no program", Check.STATE, x::restore);
         write(x, op(NOTHING), end(0));
         x.take();
-        CHECK.due("restore: dropped", 1, () -> x.pass(DROP));
-        CHECK.due("restore: packed", 2, () -> x.pass(PACK));
-        CHECK.dueThrow("restore", 0, x::restore);
+        check.due("restore: dropped", 1, () -> x.pass(DROP));
+        check.due("restore: packed", 2, () -> x.pass(PACK));
+        check.dueThrow("restore", 0, x::restore);
         dueProgram("restore: the original again", x, true, op(CONST, 2, 1), op(NOTHING), end(0));
         x.allocate(8);
         x.restore();
-        CHECK.due("restore: passes go again", 1, () -> x.pass(DROP));
+        check.due("restore: passes go again", 1, () -> x.pass(DROP));
         dueProgram("restore: the original was not touched", x, false, op(CONST, 2, 1), op(NOTHING), end(0));
     }
 
-    private static void lengthAndLook() {
+    private void lengthAndLook() {
         PassPipeline x = new PassPipeline();
         write(x, op(NOTHING), op(ADD, 3, 4, 5), end(3));
-        CHECK.due("length: of no original", 0, x.length(false));
-        CHECK.due("length: of no present", 0, x.length(true));
-        CHECK.due("look: no program", Check.ELEMENT, () -> x.look(false, 0, 3));
-        CHECK.due("look: no program, no such part", Check.ARGUMENT, () -> x.look(false, 0, 4));
+        check.due("length: of no original", 0, x.length(false));
+        check.due("length: of no present", 0, x.length(true));
+        check.due("look: no program", Check.ELEMENT, () -> x.look(false, 0, 3));
+        check.due("look: no program, no such part", Check.ARGUMENT, () -> x.look(false, 0, 4));
         x.take();
         x.pass(PACK);
-        CHECK.due("length: of the original", 3, x.length(false));
-        CHECK.due("length: of the present", 2, x.length(true));
+        check.due("length: of the original", 3, x.length(false));
+        check.due("length: of the present", 2, x.length(true));
         int[] row = {ADD, 3, 4, 5};
         for (int w = 0; w < 4; w++) {
             int what = w;
-            CHECK.due("look: at the original", row[w], () -> x.look(false, 1, what));
-            CHECK.due("look: at the present", row[w], () -> x.look(true, 0, what));
-            CHECK.due("look: behind the original", Check.ELEMENT, () -> x.look(false, 3, what));
-            CHECK.due("look: behind the present", Check.ELEMENT, () -> x.look(true, 2, what));
-            CHECK.due("look: before", Check.ELEMENT, () -> x.look(true, -1, what));
+            check.due("look: at the original", row[w], () -> x.look(false, 1, what));
+            check.due("look: at the present", row[w], () -> x.look(true, 0, what));
+            check.due("look: behind the original", Check.ELEMENT, () -> x.look(false, 3, what));
+            check.due("look: behind the present", Check.ELEMENT, () -> x.look(true, 2, what));
+            check.due("look: before", Check.ELEMENT, () -> x.look(true, -1, what));
         }
-        CHECK.due("look: what -1", Check.ARGUMENT, () -> x.look(true, 0, -1));
-        CHECK.due("look: what 4", Check.ARGUMENT, () -> x.look(true, 0, 4));
-        CHECK.due("look: neither is there", Check.ARGUMENT, () -> x.look(true, 2, 4));
+        check.due("look: what -1", Check.ARGUMENT, () -> x.look(true, 0, -1));
+        check.due("look: what 4", Check.ARGUMENT, () -> x.look(true, 0, 4));
+        check.due("look: neither is there", Check.ARGUMENT, () -> x.look(true, 2, 4));
     }
 
-    private static void pokeAndCell() {
+    private void pokeAndCell() {
         PassPipeline x = new PassPipeline();
-        CHECK.dueThrow("poke: -1", Check.ARGUMENT, () -> x.poke(-1, 0));
-        CHECK.dueThrow("poke: 8", Check.ARGUMENT, () -> x.poke(8, 0));
-        CHECK.due("cell: -1", Check.ARGUMENT, () -> x.cell(-1));
-        CHECK.due("cell: 8", Check.ARGUMENT, () -> x.cell(8));
-        CHECK.dueThrow("poke: 0", 0, () -> x.poke(0, MIN));
-        CHECK.dueThrow("poke: 7", 0, () -> x.poke(7, MAX));
-        CHECK.due("cell: what it begins with without a run", MIN, () -> x.cell(0));
-        CHECK.due("cell: what it begins with without a run", MAX, () -> x.cell(7));
+        check.dueThrow("poke: -1", Check.ARGUMENT, () -> x.poke(-1, 0));
+        check.dueThrow("poke: 8", Check.ARGUMENT, () -> x.poke(8, 0));
+        check.due("cell: -1", Check.ARGUMENT, () -> x.cell(-1));
+        check.due("cell: 8", Check.ARGUMENT, () -> x.cell(8));
+        check.dueThrow("poke: 0", 0, () -> x.poke(0, MIN));
+        check.dueThrow("poke: 7", 0, () -> x.poke(7, MAX));
+        check.due("cell: what it begins with without a run", MIN, () -> x.cell(0));
+        check.due("cell: what it begins with without a run", MAX, () -> x.cell(7));
         takeInto(x, plain(STORE, 0, 1), op(LOAD, 2, 0), end(2));
-        CHECK.due("cell: still without a run", MAX, () -> x.cell(7));
+        check.due("cell: still without a run", MAX, () -> x.cell(7));
         x.run(false, 7, 5);
-        CHECK.due("cell: stored", 5, () -> x.cell(7));
-        CHECK.due("cell: not stored", MIN, () -> x.cell(0));
+        check.due("cell: stored", 5, () -> x.cell(7));
+        check.due("cell: not stored", MIN, () -> x.cell(0));
         x.poke(7, 6);
         x.poke(0, 4);
-        CHECK.due("cell: of the latest run, not of now", 5, () -> x.cell(7));
-        CHECK.due("cell: of the latest run, not of now", MIN, () -> x.cell(0));
+        check.due("cell: of the latest run, not of now", 5, () -> x.cell(7));
+        check.due("cell: of the latest run, not of now", MIN, () -> x.cell(0));
         x.run(true, 1, 3);
-        CHECK.due("cell: each run begins anew", 6, () -> x.cell(7));
-        CHECK.due("cell: poked", 4, () -> x.cell(0));
-        CHECK.due("cell: stored", 3, () -> x.cell(1));
+        check.due("cell: each run begins anew", 6, () -> x.cell(7));
+        check.due("cell: poked", 4, () -> x.cell(0));
+        check.due("cell: stored", 3, () -> x.cell(1));
         takeInto(x, op(JUMP, 0));
-        CHECK.due("cell: a new program is no run", 3, () -> x.cell(1));
+        check.due("cell: a new program is no run", 3, () -> x.cell(1));
         takeInto(x, plain(STORE, 0, 1), op(DIV, 2, 0, 2), end(0));
         x.run(false, 2, 9);
-        CHECK.due("cell: of a run that ended otherwise", 9, () -> x.cell(2));
+        check.due("cell: of a run that ended otherwise", 9, () -> x.cell(2));
     }
 
-    private static void dueRun(String test, PassPipeline x, int x0, int y0, int ending, int steps) {
-        CHECK.due("run: " + test, ending, () -> x.run(false, x0, y0));
-        CHECK.due("run: steps of " + test, steps, x.steps());
+    private void dueRun(String test, PassPipeline x, int x0, int y0, int ending, int steps) {
+        check.due("run: " + test, ending, () -> x.run(false, x0, y0));
+        check.due("run: steps of " + test, steps, x.steps());
     }
 
-    private static void runEndings() {
+    private void runEndings() {
         PassPipeline x = new PassPipeline();
-        CHECK.due("run: no original", Check.STATE, () -> x.run(false, 0, 0));
-        CHECK.due("run: no present", Check.STATE, () -> x.run(true, 0, 0));
+        check.due("run: no original", Check.STATE, () -> x.run(false, 0, 0));
+        check.due("run: no present", Check.STATE, () -> x.run(true, 0, 0));
         takeInto(x, op(DIV, 2, 0, 1), end(2));
         dueRun("division by 0", x, 5, 0, 1, 0);
         dueRun("division", x, 5, 2, 0, 2);
@@ -694,14 +625,14 @@ final class PromiseTest {
     }
 
     /** A loop of 4 instructions, 99 times round, then 3 or 4 more and the one that ends it. */
-    private static void runAtTheLimit() {
+    private void runAtTheLimit() {
         int[] one = op(CONST, 2, 1);
         int[] count = op(CONST, 3, 99);
         int[][] loop = {op(SUB, 3, 3, 2), op(NOTHING), op(ZERO, 6, 3), op(JUMP, 2)};
         PassPipeline x = taken(one, count, loop[0], loop[1], loop[2], loop[3], op(NOTHING), op(NOTHING), end(1));
         // 2 + 98 * 4 + 3 + 2 are done before the RETURN, which is number 400.
         dueRun("RETURN is number 400", x, 0, 77, 0, 400);
-        CHECK.due("run: RETURN is number 400", 77, x::value);
+        check.due("run: RETURN is number 400", 77, x::value);
         int[][][] late = {{end(1)}, {op(DIV, 5, 0, 5), end(1)}, {plain(STORE, 0, 0), end(1)}};
         for (int[][] rows : late) {
             PassPipeline y = new PassPipeline();
@@ -711,13 +642,13 @@ final class PromiseTest {
         }
     }
 
-    private static void dueValue(String test, int due, int x0, int y0, int[]... rows) {
+    private void dueValue(String test, int due, int x0, int y0, int[]... rows) {
         PassPipeline x = taken(rows);
-        CHECK.due("run: " + test, 0, () -> x.run(false, x0, y0));
-        CHECK.due("run: value of " + test, due, x::value);
+        check.due("run: " + test, 0, () -> x.run(false, x0, y0));
+        check.due("run: value of " + test, due, x::value);
     }
 
-    private static void runArithmetic() {
+    private void runArithmetic() {
         dueValue("CONST", MIN, 1, 2, op(CONST, 7, MIN), end(7));
         dueValue("MOVE", 2, 1, 2, op(MOVE, 7, 1), end(7));
         dueValue("ADD", MIN, MAX, 1, op(ADD, 2, 0, 1), end(2));
@@ -734,86 +665,86 @@ final class PromiseTest {
         dueValue("CALL", 3 * 5 + 1 + 3 * 16 + 2, 5, 0, op(CALL, 2, 0), op(CALL, 3, 2), op(ADD, 2, 2, 3), end(2));
     }
 
-    private static void runAllocatedKinds() {
+    private void runAllocatedKinds() {
         PassPipeline x = taken(crowded());
         x.poke(3, 4);
-        CHECK.due("run: original", 0, () -> x.run(false, 5, 3));
+        check.due("run: original", 0, () -> x.run(false, 5, 3));
         int value = x.value();
         int cell = x.cell(3);
         int call = x.traced(0);
         x.allocate(4);
-        CHECK.due("run: allocated", 0, () -> x.run(true, 5, 3));
-        CHECK.due("run: allocated returns", value, x::value);
-        CHECK.due("run: allocated stores", cell, () -> x.cell(3));
-        CHECK.due("run: allocated calls", call, () -> x.traced(0));
-        CHECK.due("run: RELOADs and SPILLs are steps", 39, x.steps());
-        CHECK.due("run: value by hand", 3 + (-10 + (3 * 3 + 1 + 5)), value);
+        check.due("run: allocated", 0, () -> x.run(true, 5, 3));
+        check.due("run: allocated returns", value, x::value);
+        check.due("run: allocated stores", cell, () -> x.cell(3));
+        check.due("run: allocated calls", call, () -> x.traced(0));
+        check.due("run: RELOADs and SPILLs are steps", 39, x.steps());
+        check.due("run: value by hand", 3 + (-10 + (3 * 3 + 1 + 5)), value);
         PassPipeline y = taken(op(CONST, 2, 5), op(CONST, 3, 5), op(CONST, 4, 5), op(CONST, 5, 5), op(JUMP, 5),
                 op(ADD, 6, 2, 3), op(ADD, 6, 6, 4), op(ADD, 6, 6, 5), op(ADD, 6, 6, 7), op(ADD, 6, 6, 0),
                 op(ADD, 6, 6, 1), end(6));
-        CHECK.due("run: slots begin with 0, allocated", 6, () -> y.allocate(4));
+        check.due("run: slots begin with 0, allocated", 6, () -> y.allocate(4));
         y.run(true, 1, 2);
-        CHECK.due("run: slots begin with 0", 23, y::value);
+        check.due("run: slots begin with 0", 23, y::value);
         y.run(true, 1, 2);
-        CHECK.due("run: slots begin with 0 each time", 23, y::value);
+        check.due("run: slots begin with 0 each time", 23, y::value);
     }
 
-    private static void value() {
+    private void value() {
         PassPipeline x = new PassPipeline();
-        CHECK.due("value: no run", Check.ELEMENT, x::value);
+        check.due("value: no run", Check.ELEMENT, x::value);
         takeInto(x, op(DIV, 2, 0, 1), end(2));
-        CHECK.due("value: taken, no run", Check.ELEMENT, x::value);
+        check.due("value: taken, no run", Check.ELEMENT, x::value);
         x.run(false, 6, 2);
-        CHECK.due("value: returned", 3, x::value);
-        CHECK.due("value: and again", 3, x::value);
+        check.due("value: returned", 3, x::value);
+        check.due("value: and again", 3, x::value);
         x.run(false, 6, 0);
-        CHECK.due("value: ended otherwise", Check.ELEMENT, x::value);
+        check.due("value: ended otherwise", Check.ELEMENT, x::value);
         x.run(true, 6, -6);
-        CHECK.due("value: of the latest run", -1, x::value);
+        check.due("value: of the latest run", -1, x::value);
         takeInto(x, op(JUMP, 0));
-        CHECK.due("value: a new program is no run", -1, x::value);
+        check.due("value: a new program is no run", -1, x::value);
         x.run(true, 0, 0);
-        CHECK.due("value: spent", Check.ELEMENT, x::value);
+        check.due("value: spent", Check.ELEMENT, x::value);
     }
 
-    private static void traced() {
+    private void traced() {
         PassPipeline x = new PassPipeline();
-        CHECK.due("traced: no run", Check.ELEMENT, () -> x.traced(0));
+        check.due("traced: no run", Check.ELEMENT, () -> x.traced(0));
         takeInto(x, op(CALL, 0, 0), op(ZERO, 4, 1), op(SUB, 1, 1, 1), op(JUMP, 0), end(0));
         x.run(false, 2, 9);
-        CHECK.due("traced: first", 2, () -> x.traced(0));
-        CHECK.due("traced: second", 7, () -> x.traced(1));
-        CHECK.due("traced: none", Check.ELEMENT, () -> x.traced(2));
-        CHECK.due("traced: -1", Check.ELEMENT, () -> x.traced(-1));
-        CHECK.due("traced: the numbers are 3 * [a] and how many there are", 23, x::value);
+        check.due("traced: first", 2, () -> x.traced(0));
+        check.due("traced: second", 7, () -> x.traced(1));
+        check.due("traced: none", Check.ELEMENT, () -> x.traced(2));
+        check.due("traced: -1", Check.ELEMENT, () -> x.traced(-1));
+        check.due("traced: the numbers are 3 * [a] and how many there are", 23, x::value);
         x.run(false, 5, 0);
-        CHECK.due("traced: of the latest run", 5, () -> x.traced(0));
-        CHECK.due("traced: each run begins anew", Check.ELEMENT, () -> x.traced(1));
+        check.due("traced: of the latest run", 5, () -> x.traced(0));
+        check.due("traced: each run begins anew", Check.ELEMENT, () -> x.traced(1));
         takeInto(x, op(CALL, 2, 0), op(JUMP, 0));
-        CHECK.due("traced: a new program is no run", 5, () -> x.traced(0));
+        check.due("traced: a new program is no run", 5, () -> x.traced(0));
         x.run(false, -8, 0);
-        CHECK.due("traced: the sixteenth", -8, () -> x.traced(15));
-        CHECK.due("traced: no more than sixteen", Check.ELEMENT, () -> x.traced(16));
+        check.due("traced: the sixteenth", -8, () -> x.traced(15));
+        check.due("traced: no more than sixteen", Check.ELEMENT, () -> x.traced(16));
     }
 
-    private static void steps() {
+    private void steps() {
         PassPipeline x = new PassPipeline();
-        CHECK.due("steps: no run", 0, x.steps());
+        check.due("steps: no run", 0, x.steps());
         takeInto(x, op(NOTHING), op(JUMP, 2), op(ZERO, 4, 0), op(DIV, 2, 0, 1), end(2));
-        CHECK.due("steps: taken, no run", 0, x.steps());
+        check.due("steps: taken, no run", 0, x.steps());
         x.run(false, 1, 0);
-        CHECK.due("steps: not the one that ended it", 3, x.steps());
+        check.due("steps: not the one that ended it", 3, x.steps());
         x.run(false, 1, 1);
-        CHECK.due("steps: RETURN, too", 5, x.steps());
+        check.due("steps: RETURN, too", 5, x.steps());
         x.run(false, 0, 1);
-        CHECK.due("steps: of the latest run", 4, x.steps());
+        check.due("steps: of the latest run", 4, x.steps());
         x.pass(PACK);
-        CHECK.due("steps: a pass is no run", 4, x.steps());
+        check.due("steps: a pass is no run", 4, x.steps());
         x.run(true, 0, 1);
-        CHECK.due("steps: of the present program", 2, x.steps());
+        check.due("steps: of the present program", 2, x.steps());
     }
 
-    private static void theLongestProgram() {
+    private void theLongestProgram() {
         int[][] rows = new int[24][];
         int[][] folded = new int[24][];
         for (int i = 0; i < 23; i++) {
@@ -826,18 +757,18 @@ final class PromiseTest {
         PassPipeline x = taken(rows);
         duePass("longest: share", SHARE, 0, x, rows);
         duePass("longest: pack", PACK, 0, x, rows);
-        CHECK.due("longest: drop", 2, () -> x.pass(DROP));
+        check.due("longest: drop", 2, () -> x.pass(DROP));
         x.restore();
         duePass("longest: fold", FOLD, 23, x, folded);
         x.restore();
-        CHECK.due("longest: allocate", 3, () -> x.allocate(4));
-        CHECK.due("longest: 23 that became four, and two for the RETURN", 94, x.length(true));
-        CHECK.due("longest: its end", RETURN, () -> x.look(true, 93, 0));
-        CHECK.due("longest: run", 0, () -> x.run(true, 0, 0));
-        CHECK.due("longest: steps", 94, x.steps());
+        check.due("longest: allocate", 3, () -> x.allocate(4));
+        check.due("longest: 23 that became four, and two for the RETURN", 94, x.length(true));
+        check.due("longest: its end", RETURN, () -> x.look(true, 93, 0));
+        check.due("longest: run", 0, () -> x.run(true, 0, 0));
+        check.due("longest: steps", 94, x.steps());
     }
 
-    private static void passesOnAnObjectUsedBefore() {
+    private void passesOnAnObjectUsedBefore() {
         PassPipeline x = taken(op(CONST, 2, 5), op(MOVE, 3, 2), op(ZERO, 4, 0), end(3), end(2));
         x.pass(FOLD);
         x.pass(SHARE);
@@ -851,25 +782,25 @@ final class PromiseTest {
         takeInto(x, op(LOAD, 4, 0), op(CONST, 3, 5), end(3));
         duePass("used before: share", SHARE, 0, x, op(LOAD, 4, 0), op(CONST, 3, 5), end(3));
         takeInto(x, crowded());
-        CHECK.due("used before: allocate", 3, () -> x.allocate(4));
+        check.due("used before: allocate", 3, () -> x.allocate(4));
         takeInto(x, end(0));
-        CHECK.due("used before: allocate", 0, () -> x.allocate(4));
+        check.due("used before: allocate", 0, () -> x.allocate(4));
         dueHomes("used before: homes", x, 0, 1, 0, 0, 0, 0, 0, 0);
         takeInto(x, op(NOTHING), end(0));
         duePass("used before: pack", PACK, 1, x, end(0));
     }
 
-    private static void runsOnAnObjectUsedBefore() {
+    private void runsOnAnObjectUsedBefore() {
         PassPipeline x = taken(op(ADD, 2, 2, 0), op(ADD, 3, 3, 1), op(ADD, 4, 3, 2), op(ADD, 4, 4, 0),
                 op(ADD, 4, 4, 1), op(ADD, 4, 4, 2), op(ADD, 4, 4, 3), end(4));
         x.run(false, 1, 10);
-        CHECK.due("used before: first run", 33, x::value);
+        check.due("used before: first run", 33, x::value);
         x.run(false, 1, 10);
-        CHECK.due("used before: registers begin with 0", 33, x::value);
-        CHECK.due("used before: slots", 3, () -> x.allocate(4));
+        check.due("used before: registers begin with 0", 33, x::value);
+        check.due("used before: slots", 3, () -> x.allocate(4));
         x.run(true, 1, 10);
-        CHECK.due("used before: first run with slots", 33, x::value);
+        check.due("used before: first run with slots", 33, x::value);
         x.run(true, 1, 10);
-        CHECK.due("used before: slots begin with 0", 33, x::value);
+        check.due("used before: slots begin with 0", 33, x::value);
     }
 }
