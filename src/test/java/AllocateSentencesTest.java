@@ -18,8 +18,14 @@ final class AllocateSentencesTest extends Tester {
     }
 
     /** What allocate answers, and the homes of registers 2, 3, .. as far as they are given. */
-    private PassPipeline dueAllocation(String test, int[][] rows, int k, int inSlots, int... homes) {
-        PassPipeline x = taken(rows);
+    private void dueAllocation(String test, int[][] rows, int k, int inSlots, int... homes) {
+        for (PassPipeline x : newAndUsed()) {
+            takeInto(x, rows);
+            dueAllocation(test, x, k, inSlots, homes);
+        }
+    }
+
+    private void dueAllocation(String test, PassPipeline x, int k, int inSlots, int... homes) {
         check.due(test + " allocate(" + k + ")", inSlots, () -> x.allocate(k));
         check.due(test + " home(0)", 0, () -> x.home(0));
         check.due(test + " home(1)", 1, () -> x.home(1));
@@ -27,7 +33,6 @@ final class AllocateSentencesTest extends Tester {
             int register = i + 2;
             check.due(test + " home(" + register + ")", homes[i], () -> x.home(register));
         }
-        return x;
     }
 
     private void interference() {
@@ -74,6 +79,7 @@ final class AllocateSentencesTest extends Tester {
     }
 
     private void writtenByEachKind() {
+        about("or an instruction writes one of them");
         int[][] writers = {op(CONST, 2, 5), op(MOVE, 2, 1), op(ADD, 2, 1, 1), op(SUB, 2, 1, 1), op(MUL, 2, 1, 1),
             op(DIV, 2, 1, 1), op(LOAD, 2, 1), op(CALL, 2, 1)};
         for (int[] writer : writers) {
@@ -86,11 +92,13 @@ final class AllocateSentencesTest extends Tester {
     }
 
     private void writtenForNobody() {
+        about("or an instruction writes one of them and the other one is live before what follows");
         dueAllocation("what is written for nobody", rows(op(CONST, 2, 5), op(ADD, 3, 0, 1), end(3)), 3, 0, 2, 0);
         dueAllocation("what is not reached", rows(op(JUMP, 2), op(CONST, 2, 5), op(ADD, 3, 0, 1), end(3)), 3, 0, 2, 0);
     }
 
     private void liveOnEitherWay() {
+        about("and the other one is live before what follows");
         dueAllocation("on either way of a ZERO", rows(op(CONST, 2, 5), op(ZERO, 3, 2), end(0), end(1)), 3, 0, 2);
         dueAllocation("not behind a JUMP", rows(op(CONST, 2, 5), op(JUMP, 3), end(0), end(2)), 2, 0, 0);
         dueAllocation("not behind a RETURN", rows(op(CONST, 2, 5), end(2), end(0)), 2, 0, 0);
@@ -177,12 +185,14 @@ final class AllocateSentencesTest extends Tester {
         int[][] rows = {op(CONST, 2, 1), op(CONST, 4, 2), op(CONST, 6, 3), op(SUB, 0, 0, 2), op(SUB, 0, 0, 4),
             op(SUB, 0, 0, 6), op(SUB, 0, 0, 1), op(CALL, 7, 0), op(CALL, 3, 7), end(3)};
         dueAllocation("5 are enough", rows, 5, 0, 2, 0, 3, 0, 4, 0);
-        PassPipeline x = dueAllocation("others still find one between and behind", rows, 4, 3, 8, 0, 9, 0, 10, 0);
+        PassPipeline x = taken(rows);
+        dueAllocation("others still find one between and behind", x, 4, 3, 8, 0, 9, 0, 10, 0);
         check.due("run", 0, () -> x.run(true, 100, 10));
         check.due("value", 3 * (3 * (100 - 1 - 2 - 3 - 10) + 1) + 2, x::value);
     }
 
     private void tooFew() {
+        check.about("Promise 5", "or k is below 4 and some register finds no machine register (nothing is done then).");
         for (int k = 2; k < 4; k++) {
             int few = k;
             PassPipeline x = taken(allLive(op(NOTHING)));
@@ -201,11 +211,18 @@ final class AllocateSentencesTest extends Tester {
         whereJumpsGo();
         jumpsToThemselves();
         behindADivisionByZero();
+        theLongest();
     }
 
     /** With k 4 register r is in slot r - 2, and the helpers are 2 and 3. */
     private void dueBecomes(String test, int[] row, int[]... due) {
-        PassPipeline x = taken(allLive(row));
+        for (PassPipeline x : newAndUsed()) {
+            takeInto(x, allLive(row));
+            dueBecomes(test, x, due);
+        }
+    }
+
+    private void dueBecomes(String test, PassPipeline x, int[]... due) {
         check.due(test + " allocate(4)", 6, () -> x.allocate(4));
         for (int i = 0; i < due.length; i++) {
             for (int what = 0; what < 4; what++) {
@@ -249,6 +266,7 @@ final class AllocateSentencesTest extends Tester {
     }
 
     private void reloadForReturn() {
+        about("RELOAD of a into the first helper, if it reads a and that is in a slot;");
         PassPipeline x = taken(op(ZERO, 2, 0), end(7), op(CALL, 0, 2), op(ADD, 0, 0, 3), op(ADD, 0, 0, 4),
                 op(ADD, 0, 0, 1), end(0));
         check.due("RETURN allocate(4)", 4, () -> x.allocate(4));
@@ -323,6 +341,7 @@ final class AllocateSentencesTest extends Tester {
     }
 
     private void jumpsToThemselves() {
+        about("JUMP and ZERO go to the first of what the instruction became to which they went.");
         dueBecomes("a ZERO to itself", op(ZERO, 0, 6), op(RELOAD, 2, 4), op(ZERO, 0, 2));
         PassPipeline x = taken(op(CONST, 2, 5), op(JUMP, 1));
         check.due("a JUMP to itself", 0, () -> x.allocate(2));
@@ -330,6 +349,7 @@ final class AllocateSentencesTest extends Tester {
     }
 
     private void behindADivisionByZero() {
+        about("and the other one is live before what follows");
         PassPipeline x = taken(op(CONST, 2, 5), op(CONST, 3, 6), op(CONST, 4, 7), op(CALL, 5, 2), op(CALL, 5, 3),
                 op(CALL, 5, 4), op(CALL, 5, 0), op(CALL, 5, 1), op(DIV, 6, 5, 7), end(6));
         check.due("fold", 1, () -> x.pass(FOLD));
@@ -338,5 +358,29 @@ final class AllocateSentencesTest extends Tester {
         dueHomes("nothing is live behind the last", x, 0, 1, 8, 9, 10, 11, 0, 12);
         check.due("run", 1, () -> x.run(true, 5, 6));
         check.due("run", 1, () -> x.run(false, 5, 6));
+    }
+
+    private void theLongest() {
+        about("The DRAFT has at most 24 instructions of the kinds 0 .. 12.");
+        int[][] rows = new int[24][];
+        int[][] due = new int[22 * 4 + 4][];
+        for (int i = 0; i < 22; i++) {
+            int d = 2 + i % 3;
+            int b = 2 + (i + 1) % 3;
+            rows[i] = op(ADD, d, d, b);
+            due[i * 4] = op(RELOAD, 2, d - 2);
+            due[i * 4 + 1] = op(RELOAD, 3, b - 2);
+            due[i * 4 + 2] = op(ADD, 2, 2, 3);
+            due[i * 4 + 3] = plain(SPILL, 2, d - 2);
+        }
+        rows[22] = op(ZERO, 23, 3);
+        rows[23] = end(2);
+        due[22 * 4] = op(RELOAD, 2, 1);
+        due[22 * 4 + 1] = op(ZERO, 22 * 4 + 2, 2);
+        due[22 * 4 + 2] = op(RELOAD, 2, 0);
+        due[22 * 4 + 3] = end(2);
+        PassPipeline x = taken(rows);
+        check.due("24 instructions, allocate(4)", 3, () -> x.allocate(4));
+        dueProgram("24 instructions", x, true, due);
     }
 }

@@ -51,6 +51,7 @@ final class DropSentencesTest extends Tester {
     }
 
     private void notLiveBeforeAWrite() {
+        about("and before one that does not write it");
         int[][] writers = {op(CONST, 2, 6), op(MOVE, 2, 0), op(ADD, 2, 0, 1), op(SUB, 2, 0, 1), op(MUL, 2, 0, 1),
             op(DIV, 2, 0, 1), op(LOAD, 2, 0), op(CALL, 2, 0)};
         for (int[] writer : writers) {
@@ -61,6 +62,7 @@ final class DropSentencesTest extends Tester {
     }
 
     private void liveBeforeWhatMayFollow() {
+        about("when it is live before something that may follow that.");
         dueNoChange("where a ZERO goes", DROP, op(CONST, 2, 5), op(ZERO, 3, 0), end(1), end(2));
         dueNoChange("behind a ZERO", DROP, op(CONST, 2, 5), op(ZERO, 3, 0), end(2), end(1));
         dueNoChange("where a JUMP goes", DROP, op(CONST, 2, 5), op(JUMP, 3), end(1), end(2));
@@ -75,6 +77,7 @@ final class DropSentencesTest extends Tester {
     }
 
     private void whatMayFollowByItsKindAlone() {
+        about("something that may follow that.");
         dueNoChange("whatever number a ZERO would see", DROP, op(CONST, 2, 5), op(ZERO, 3, 7), end(2), end(1));
         dueNoChange("whatever number a DIV would see", DROP, op(CONST, 2, 5), op(DIV, 3, 0, 7), end(2));
         dueNoChange("whatever cell a LOAD would see", DROP, op(CONST, 2, 8), op(LOAD, 3, 2), end(2));
@@ -83,6 +86,7 @@ final class DropSentencesTest extends Tester {
     }
 
     private void loops() {
+        about("when it is live before something that may follow that.");
         dueNoChange("read in the next round", DROP,
                 op(CONST, 3, 1), op(CALL, 4, 2), op(ADD, 2, 2, 3), op(ZERO, 5, 0), op(JUMP, 1), end(0));
         dueNoChange("read by itself in the next round", DROP, op(ADD, 2, 2, 1), op(JUMP, 0));

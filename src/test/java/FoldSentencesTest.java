@@ -89,6 +89,7 @@ final class FoldSentencesTest extends Tester {
     }
 
     private void everyKindIsFollowed() {
+        about("what may follow a reached instruction is reached,");
         int[][] all = {op(NOTHING), op(CONST, 2, 1), op(MOVE, 2, 0), op(ADD, 2, 0, 1), op(SUB, 2, 0, 1),
             op(MUL, 2, 0, 1), op(DIV, 2, 0, 1), op(LOAD, 2, 0), plain(STORE, 0, 1), op(CALL, 2, 0)};
         for (int[] row : all) {
@@ -131,6 +132,7 @@ final class FoldSentencesTest extends Tester {
     }
 
     private void noSumsOfAnything() {
+        about("ADD, SUB, MUL, DIV of two numbers a number");
         for (int kind = ADD; kind <= DIV; kind++) {
             dueNoChange("a has anything, kind " + kind, FOLD,
                     op(CONST, 3, 5), op(kind, 3, 0, 3), op(MOVE, 4, 3), end(4));
@@ -166,11 +168,15 @@ final class FoldSentencesTest extends Tester {
     }
 
     private void othersThatWriteNothing() {
-        duePass("what writes nothing leaves the numbers", FOLD,
-                rows(op(CONST, 2, 5), op(NOTHING), plain(STORE, 0, 2), op(ZERO, 4, 0), op(JUMP, 5), op(MOVE, 3, 2),
-                        end(3)), 1,
-                op(CONST, 2, 5), op(NOTHING), plain(STORE, 0, 2), op(ZERO, 4, 0), op(JUMP, 5), op(CONST, 3, 5),
-                end(3));
+        about("with what is in the registers then:");
+        for (int r = 0; r < 8; r++) {
+            int other = (r + 1) % 8;
+            duePass("what writes nothing leaves register " + r, FOLD,
+                    rows(op(CONST, r, 5), op(LOAD, other, r), op(NOTHING), plain(STORE, other, r), op(ZERO, 5, other),
+                            op(JUMP, 6), op(MOVE, other, r), end(other)), 1,
+                    op(CONST, r, 5), op(LOAD, other, r), op(NOTHING), plain(STORE, other, r), op(ZERO, 5, other),
+                    op(JUMP, 6), op(CONST, other, 5), end(other));
+        }
         dueNoChange("ZERO leaves anything where it goes", FOLD, op(ZERO, 2, 0), end(1), op(MOVE, 2, 0), end(2));
     }
 
@@ -194,6 +200,11 @@ final class FoldSentencesTest extends Tester {
 
     private void differentNumbers() {
         about("Where ways come together with different numbers,");
+        for (int r = 0; r < 8; r++) {
+            int other = (r + 1) % 8;
+            dueNoChange("in register " + r, FOLD, op(LOAD, other, 0), op(ZERO, 4, other), op(CONST, r, 5), op(JUMP, 5),
+                    op(CONST, r, 6), op(MOVE, other, r), end(other));
+        }
         dueNoChange("5 and 6", FOLD, diamond(op(CONST, 2, 5), op(CONST, 2, 6)));
         dueNoChange("MIN and MAX", FOLD, diamond(op(CONST, 2, MIN), op(CONST, 2, MAX)));
         dueNoChange("5 and the 0 of the beginning", FOLD, diamond(op(CONST, 2, 5), op(NOTHING)));
@@ -225,6 +236,7 @@ final class FoldSentencesTest extends Tester {
     }
 
     private void backToInstructionZero() {
+        about("Where ways come together with different numbers, or anything, there is anything.");
         dueNoChange("back to instruction 0 with another number", FOLD,
                 op(MOVE, 4, 2), op(CONST, 2, 1), op(ZERO, 4, 0), op(JUMP, 0), end(4));
         duePass("back to instruction 0 with the 0 of the beginning", FOLD,
@@ -235,6 +247,7 @@ final class FoldSentencesTest extends Tester {
     }
 
     private void loops() {
+        about("Where ways come together with different numbers, or anything, there is anything.");
         dueNoChange("a counter", FOLD,
                 op(CONST, 2, 9), op(CONST, 3, 1), op(SUB, 2, 2, 3), op(ZERO, 5, 2), op(JUMP, 2), end(2));
         dueNoChange("numbers that are lost one after the other, a round each", FOLD,
@@ -291,6 +304,7 @@ final class FoldSentencesTest extends Tester {
     }
 
     private void foldedTwice() {
+        check.about("Promise 4", "how many instructions of the present program have become others");
         PassPipeline x = taken(op(CONST, 2, 5), op(ZERO, 3, 3), op(CALL, 2, 0), op(ADD, 4, 2, 2), end(4));
         int[][] folded = {op(CONST, 2, 5), op(JUMP, 3), op(NOTHING), op(CONST, 4, 10), end(4)};
         duePass("the first time", FOLD, 3, x, folded);

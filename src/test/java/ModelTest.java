@@ -79,7 +79,7 @@ final class ModelTest {
         } else if (choice == 8) {
             allocate(2 + programs.pick(7));
         } else if (choice == 9) {
-            poke(programs.pick(8), programs.pick(12) - 2);
+            poke(programs.pick(8), programs.number());
         } else if (choice == 10) {
             same("restore()", program::restore, model::restore);
         } else {
@@ -126,8 +126,8 @@ final class ModelTest {
     }
 
     private void runBoth() {
-        int x = programs.pick(5) - 1;
-        int y = programs.pick(40) == 0 ? Integer.MIN_VALUE : programs.pick(5) - 1;
+        int x = programs.number();
+        int y = programs.number();
         for (int which = 0; which < 2; which++) {
             boolean present = which == 1;
             same("run(" + present + ", " + x + ", " + y + ")",

@@ -121,6 +121,7 @@ final class PackSentencesTest extends Tester {
     }
 
     private void byWhatIsBehindBeforeAnyIsTakenOut() {
+        about("is what is behind it past NOTHING;");
         PassPipeline x = taken(op(CALL, 2, 1), op(JUMP, 3), op(NOTHING), op(JUMP, 4), end(2));
         duePass("what is behind is still a JUMP", PACK, 2, x, op(CALL, 2, 1), op(JUMP, 2), end(2));
         duePass("next time it is not", PACK, 1, x, op(CALL, 2, 1), end(2));
@@ -146,6 +147,7 @@ final class PackSentencesTest extends Tester {
     }
 
     private void behindAFold() {
+        about("Then NOTHINGs are taken out,");
         PassPipeline x = taken(op(ZERO, 3, 0), op(DIV, 2, 1, 2), op(CALL, 2, 0), op(ZERO, 5, 7), end(0),
                 op(DIV, 3, 1, 7), end(3));
         duePass("folded", FOLD, 4, x,

@@ -113,8 +113,22 @@ final class RunSentencesTest extends Tester {
                 dueValue("kind " + kind + " into " + d, due[kind - ADD], taken(op(kind, d, 0, 1), end(d)), 10, 4);
             }
         }
+        sumsOfAnyRegisters();
         dueValue("SUB the other way round", -6, taken(op(SUB, 2, 1, 0), end(2)), 10, 4);
         dueValue("MUL by itself", 100, taken(op(MUL, 0, 0, 0), end(0)), 10, 4);
+    }
+
+    private void sumsOfAnyRegisters() {
+        int[] due = {17 + 5, 17 - 5, 17 * 5, 17 / 5};
+        for (int i = 0; i < 512; i++) {
+            int d = i / 64;
+            int a = i / 8 % 8;
+            int b = i % 8;
+            for (int kind = ADD; kind <= DIV && a != b; kind++) {
+                dueValue("kind " + kind + " " + d + " " + a + " " + b, due[kind - ADD],
+                        taken(op(CONST, a, 17), op(CONST, b, 5), op(kind, d, a, b), end(d)), 1, 2);
+            }
+        }
     }
 
     private void division() {
@@ -130,6 +144,9 @@ final class RunSentencesTest extends Tester {
     }
 
     private void loadAndStore() {
+        for (int i = 0; i < 64; i++) {
+            anyTwoRegisters(i / 8, i % 8);
+        }
         about("7 LOAD d a: cell [a].");
         PassPipeline x = taken(op(LOAD, 0, 0), end(0));
         x.poke(0, MIN);
@@ -141,6 +158,23 @@ final class RunSentencesTest extends Tester {
         dueValue("STORE", MAX, y, 7, MAX);
         check.due("STORE", MAX, () -> y.cell(7));
         check.due("STORE, another cell", 0, () -> y.cell(0));
+    }
+
+    private void anyTwoRegisters(int one, int other) {
+        PassPipeline x = taken(op(CONST, one, 6), op(LOAD, other, one), end(other));
+        x.poke(6, 66);
+        about("7 LOAD d a: cell [a].");
+        dueValue("LOAD " + other + " " + one, 66, x, 1, 2);
+        PassPipeline y = taken(op(CONST, one, 4), op(CONST, other, 7), plain(STORE, one, other), end(one));
+        about("8 STORE a b: cell [a] becomes [b].");
+        dueValue("STORE " + one + " " + other, one == other ? 7 : 4, y, 1, 2);
+        check.due("STORE " + one + " " + other, 7, () -> y.cell(one == other ? 7 : 4));
+        PassPipeline z = taken(op(CONST, one, 4), op(CALL, other, one), end(other));
+        about("11 CALL d a: [a] is put to the end of the TRACE,");
+        dueValue("CALL " + other + " " + one, 3 * 4 + 1, z, 1, 2);
+        check.due("CALL " + other + " " + one, 4, () -> z.traced(0));
+        about("2 MOVE d a: [a].");
+        dueValue("MOVE " + other + " " + one, 4, taken(op(CONST, one, 4), op(MOVE, other, one), end(other)), 1, 2);
     }
 
     private void jumpAndZero() {
@@ -246,7 +280,9 @@ final class RunSentencesTest extends Tester {
     }
 
     private void running() {
-        beginsAnew();
+        registersBegin();
+        slotsBeginWithZero();
+        memoryAndTraceBegin();
         instructionZeroFirst();
         endsByReturn();
         endsByDivision();
@@ -256,9 +292,8 @@ final class RunSentencesTest extends Tester {
         spentIsLookedAtFirst();
     }
 
-    private void beginsAnew() {
-        about("RUNNING: registers 0 and 1 hold the arguments, the others and the slots 0, the memory what the host has"
-                + " put into it; the trace is empty.");
+    private void registersBegin() {
+        about("RUNNING: registers 0 and 1 hold the arguments, the others and the slots 0,");
         for (int r = 2; r < 8; r++) {
             PassPipeline x = taken(op(ADD, r, r, 0), op(ADD, r, r, 1), end(r));
             dueValue("register " + r + " begins with 0", MIN + 3, x, MIN, 3);
@@ -266,7 +301,10 @@ final class RunSentencesTest extends Tester {
         }
         dueValue("register 0", MIN, taken(end(0)), MIN, MAX);
         dueValue("register 1", MAX, taken(end(1)), MIN, MAX);
-        slotsBeginWithZero();
+    }
+
+    private void memoryAndTraceBegin() {
+        about("the memory what the host has put into it; the trace is empty.");
         PassPipeline y = taken(op(LOAD, 2, 0), plain(STORE, 0, 1), op(CALL, 3, 2), end(2));
         y.poke(4, 44);
         dueValue("what the host has put", 44, y, 4, 5);
@@ -276,6 +314,7 @@ final class RunSentencesTest extends Tester {
     }
 
     private void slotsBeginWithZero() {
+        about("the others and the slots 0,");
         int[][] all = new int[14][];
         for (int r = 2; r < 8; r++) {
             all[r - 2] = op(ADD, r, r, 0);

@@ -70,9 +70,14 @@ final class ShareSentencesTest extends Tester {
         about("At the beginning of a block all registers have different VALUES.");
         dueNoChange("registers that are 0", SHARE, op(MOVE, 3, 2), op(ADD, 5, 2, 0), op(ADD, 6, 4, 0), end(1));
         dueNoChange("a later block", SHARE, op(MOVE, 3, 2), op(JUMP, 2), op(ADD, 4, 2, 0), op(ADD, 5, 3, 0), end(1));
-        for (int r = 1; r < 8; r++) {
+        for (int r = 0; r < 8; r++) {
+            int other = r == 7 ? 6 : 7;
             dueNoChange("register " + r, SHARE, end(r));
+            dueNoChange("register " + r + " was written before", SHARE,
+                    op(LOAD, r, 1), op(JUMP, 2), op(CALL, other, r), plain(STORE, r, other), end(1));
         }
+        dueNoChange("values of an earlier block are no values of this one", SHARE,
+                op(CONST, 2, 9), op(JUMP, 2), op(LOAD, 3, 0), op(CONST, 4, 9), end(4));
     }
 
     private void instructions() {
@@ -103,6 +108,7 @@ final class ShareSentencesTest extends Tester {
     }
 
     private void readsAreReplacedByTheLowestNow() {
+        about("the lowest one that has the same value now;");
         duePass("the lowest of three", SHARE, rows(op(MOVE, 3, 7), op(MOVE, 5, 7), end(7)), 2,
                 op(MOVE, 3, 7), op(MOVE, 5, 3), end(3));
         dueNoChange("not one that had it", SHARE, op(MOVE, 2, 0), op(LOAD, 0, 1), op(ADD, 3, 2, 2), end(2));
@@ -113,6 +119,7 @@ final class ShareSentencesTest extends Tester {
     }
 
     private void onlyReadsAreReplaced() {
+        about("each register that it reads is replaced");
         dueNoChange("not the number of a CONST", SHARE, op(MOVE, 5, 0), op(CONST, 6, 5), end(1));
         dueNoChange("not d", SHARE, op(MOVE, 5, 0), op(LOAD, 5, 1), op(MOVE, 5, 0), op(CALL, 5, 1), end(1));
         dueNoChange("not where a JUMP goes", SHARE, op(MOVE, 3, 0), op(JUMP, 3), op(NOTHING), end(1));
@@ -136,6 +143,7 @@ final class ShareSentencesTest extends Tester {
     }
 
     private void becomesMoveOfTheLowest() {
+        about("it becomes MOVE d r, with the lowest of these;");
         duePass("a lower one came later", SHARE, rows(op(CONST, 6, 9), op(MOVE, 4, 6), op(CONST, 7, 9), end(1)), 1,
                 op(CONST, 6, 9), op(MOVE, 4, 6), op(MOVE, 7, 4), end(1));
         duePass("a higher one than d", SHARE, rows(op(CONST, 6, 9), op(CONST, 2, 9), end(1)), 1,

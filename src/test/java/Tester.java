@@ -47,6 +47,38 @@ abstract class Tester {
         return rows;
     }
 
+    /** A new object, and some whose earlier programs, passes and runs must not be seen in what comes next. */
+    static PassPipeline[] newAndUsed() {
+        int[][] mixed = {op(CONST, 2, 9), op(CONST, 3, 5), op(ADD, 4, 0, 1), op(SUB, 5, 0, 1), op(MUL, 6, 0, 1),
+            op(ZERO, 1, 0), op(CONST, 2, 9), op(MOVE, 7, 2), op(ZERO, 2, 1), op(LOAD, 0, 1), op(ADD, 4, 4, 5),
+            op(ZERO, 3, 7), op(CONST, 2, 8), plain(STORE, 0, 6), op(CALL, 1, 5), op(ZERO, 1, 4), op(JUMP, 18),
+            op(CONST, 3, 7), op(NOTHING), op(ZERO, 20, 3), op(CONST, 2, 9), op(ADD, 3, 0, 1), op(MOVE, 5, 2),
+            op(JUMP, 2)};
+        int[][] going = new int[24][];
+        int[][] giving = new int[24][];
+        for (int i = 0; i < 23; i++) {
+            going[i] = op(ZERO, 1 + i % 3, i % 8);
+            giving[i] = i % 2 == 0 ? op(MOVE, i % 8, i % 8) : op(ADD, i % 8, i / 8, 7 - i / 8);
+        }
+        going[23] = op(JUMP, 1);
+        giving[23] = end(0);
+        return new PassPipeline[] {new PassPipeline(), used(mixed), used(going), used(giving)};
+    }
+
+    private static PassPipeline used(int[]... rows) {
+        PassPipeline x = taken(rows);
+        x.poke(7, 0);
+        x.run(false, 3, 4);
+        x.allocate(4);
+        x.run(true, 3, 4);
+        x.restore();
+        x.pass(FOLD);
+        x.pass(SHARE);
+        x.pass(DROP);
+        x.restore();
+        return x;
+    }
+
     static PassPipeline taken(int[]... rows) {
         PassPipeline x = new PassPipeline();
         takeInto(x, rows);
@@ -81,9 +113,11 @@ abstract class Tester {
 
     /** A pass on a new program: what it answers, and what it makes of the program. */
     void duePass(String test, int pass, int[][] before, int count, int[]... after) {
-        PassPipeline x = taken(before);
-        duePass(test, pass, count, x, after);
-        dueProgram(test + ", the original", x, false, before);
+        for (PassPipeline x : newAndUsed()) {
+            takeInto(x, before);
+            duePass(test, pass, count, x, after);
+            dueProgram(test + ", the original", x, false, before);
+        }
     }
 
     void dueNoChange(String test, int pass, int[]... rows) {
