@@ -203,6 +203,7 @@ final class AllocateSentencesTest extends Tester {
     }
 
     private void instructions() {
+        eachBecomesSome();
         helpers();
         reloadOfA();
         reloadOfB();
@@ -247,6 +248,25 @@ final class AllocateSentencesTest extends Tester {
                         x.look(true, i / 4, i % 4));
             }
         }
+    }
+
+    private void eachBecomesSome() {
+        about("Then each instruction becomes:");
+        int[][] each = {op(NOTHING), op(CONST, 1, 7), op(MOVE, 0, 1), op(ADD, 0, 0, 1), op(SUB, 1, 0, 1),
+            op(MUL, 0, 1, 1), op(DIV, 1, 0, 1), op(LOAD, 1, 0), plain(STORE, 1, 0), op(JUMP, 11), op(ZERO, 0, 1),
+            op(CALL, 0, 1), op(NOTHING), end(0), op(JUMP, 14)};
+        for (int k = 2; k <= 8; k++) {
+            for (PassPipeline x : newAndUsed()) {
+                takeInto(x, each);
+                dueAllocation("registers 0 and 1 alone", x, k, 0);
+                dueProgram("registers 0 and 1 alone, in their order", x, true, each);
+            }
+        }
+        PassPipeline y = taken(op(NOTHING), op(ADD, 2, 2, 3), op(SUB, 2, 2, 4), end(1), op(MUL, 5, 5, 6), end(5));
+        check.due("three slots", 3, () -> y.allocate(4));
+        dueProgram("those that are never done, too", y, true, op(NOTHING), op(RELOAD, 2, 0), op(RELOAD, 3, 1),
+                op(ADD, 2, 2, 3), plain(SPILL, 2, 0), op(RELOAD, 2, 0), op(RELOAD, 3, 2), op(SUB, 2, 2, 3),
+                plain(SPILL, 2, 0), end(1), op(MUL, 0, 0, 0), end(0));
     }
 
     private void reloadOfA() {

@@ -21,7 +21,9 @@ final class RunSentencesTest extends Tester {
     private void registersAndCells() {
         registersHoldInts();
         memoryHasEightCells();
+        aRowOfInstructions();
         numbersThatTheKindDoesNotName();
+        whatRegistersHold();
     }
 
     private void registersHoldInts() {
@@ -55,6 +57,36 @@ final class RunSentencesTest extends Tester {
         dueEnding("cell 8", 2, 0, x, 8, 5);
         check.due("cell(-1)", Check.ARGUMENT, () -> x.cell(-1));
         check.due("cell(8)", Check.ARGUMENT, () -> x.cell(8));
+    }
+
+    private void aRowOfInstructions() {
+        about("A PROGRAM is a row of INSTRUCTIONS 0, 1, .., each with a KIND and the numbers d, a, b");
+        PassPipeline x = new PassPipeline();
+        int[][] rows = new int[24][];
+        for (int i = 0; i < 24; i++) {
+            int kind = ADD + i % 4;
+            rows[i] = i == 23 ? op(JUMP, i) : op(kind, i % 8, (i + 3) % 8, (i + 5) % 8);
+            int[] row = rows[i];
+            check.due("instruction " + i, i, () -> x.instruction(row[0], row[1], row[2], row[3]));
+        }
+        check.due("take()", 24, x::take);
+        dueProgram("the original", x, false, rows);
+        dueProgram("the present one", x, true, rows);
+        check.due("instruction 24", Check.ELEMENT, () -> x.look(false, 24, 0));
+    }
+
+    private void whatRegistersHold() {
+        about("[r] is what register r holds):");
+        dueValue("MOVE", 70, taken(op(MOVE, 2, 1), end(2)), 60, 70);
+        dueValue("MUL", 60 * 70, taken(op(MUL, 2, 0, 1), end(2)), 60, 70);
+        dueValue("a sum of what has been written", 140, taken(op(MOVE, 0, 1), op(ADD, 0, 0, 1), end(0)), 60, 70);
+        PassPipeline x = taken(plain(STORE, 0, 1), op(LOAD, 2, 0), op(CALL, 3, 1), end(2));
+        dueValue("LOAD", 70, x, 6, 70);
+        check.due("STORE, cell(6)", 70, () -> x.cell(6));
+        check.due("STORE, cell(0)", 0, () -> x.cell(0));
+        check.due("CALL", 70, () -> x.traced(0));
+        dueValue("ZERO of a register 0 that holds no 0", 70, taken(op(ZERO, 2, 0), end(1), end(0)), 60, 70);
+        dueValue("ZERO of a register 1 that holds 0", 60, taken(op(ZERO, 2, 1), end(1), end(0)), 60, 0);
     }
 
     private void numbersThatTheKindDoesNotName() {
